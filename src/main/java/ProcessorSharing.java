@@ -175,14 +175,14 @@ public final class ProcessorSharing {
         int share = UNITS_PER_TICK / sharers;
         int ended = 0;
         for (int job = 0; job < jobCount; job++) {
-            if (states[job] == SERVED && endsWith(job, share)) {
+            if (states[job] == SERVED && finishesWith(job, share)) {
                 ended++;
             }
         }
         return ended;
     }
 
-    private boolean endsWith(int job, int share) {
+    private boolean finishesWith(int job, int share) {
         if (sizes[job] - unitsHad[job] > share) {
             unitsHad[job] += share;
             return false;
