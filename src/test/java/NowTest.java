@@ -26,7 +26,7 @@ public final class NowTest {
         due.is("now() after run(6000)", x.now(), 5003);
     }
 
-    /** The call after the last run is the 512th one. */
+    /** The last call on each of the two objects is its 512th one. */
     private static void goesAsFarAsTheCallsReach(Due due) {
         ProcessorSharing x = new ProcessorSharing();
         for (int i = 0; i < 507; i++) {
