@@ -175,21 +175,21 @@ public final class ProcessorSharing {
         int share = UNITS_PER_TICK / sharers;
         int ended = 0;
         for (int job = 0; job < jobCount; job++) {
-            if (states[job] == SERVED && finishesWith(job, share)) {
-                ended++;
+            if (states[job] == SERVED) {
+                giveWork(job, share);
+                ended += states[job] == FINISHED ? 1 : 0;
             }
         }
         return ended;
     }
 
-    private boolean finishesWith(int job, int share) {
+    private void giveWork(int job, int share) {
         if (sizes[job] - unitsHad[job] > share) {
             unitsHad[job] += share;
-            return false;
+            return;
         }
         unitsHad[job] = sizes[job];
         states[job] = FINISHED;
         finishTicks[job] = presentTick;
-        return true;
     }
 }
