@@ -1,4 +1,4 @@
-/** Promises 11 and 12: served and waiting. */
+/** Promises 11 and 12 together: served and waiting. */
 public final class CountsTest {
     public static void main(String[] args) {
         Due due = new Due();
@@ -10,6 +10,7 @@ public final class CountsTest {
     }
 
     private static void arrivalsCountOnlyOnceWorked(Due due) {
+        due.says("served at the end of the last tick worked");
         ProcessorSharing x = new ProcessorSharing();
         for (int job = 0; job < 10; job++) {
             x.submit(1000, 0);
@@ -22,6 +23,7 @@ public final class CountsTest {
     }
 
     private static void finishedJobsAreNotServed(Due due) {
+        due.says("is finished at the end of this tick and leaves");
         ProcessorSharing x = new ProcessorSharing();
         x.submit(280, 0);
         x.submit(281, 0);
@@ -33,6 +35,7 @@ public final class CountsTest {
     }
 
     private static void takenAwayJobsDoNotCount(Due due) {
+        due.says("have not been taken away since");
         ProcessorSharing x = new ProcessorSharing();
         for (int job = 0; job < 12; job++) {
             x.submit(5000, 0);
@@ -53,6 +56,7 @@ public final class CountsTest {
     }
 
     private static void lineGrowsAndShrinks(Due due) {
+        due.says("How many jobs stand in the line now.");
         ProcessorSharing x = new ProcessorSharing();
         for (int job = 0; job < 24; job++) {
             x.submit(420, job / 8);

@@ -1,4 +1,4 @@
-/** Promises 7 to 10: state, had, admitted, finished. */
+/** Promises 7 to 10 together: all that state, had, admitted and finished tell of one job. */
 public final class JobAnswersTest {
     private static final int NOT_YET = ProcessorSharing.NOT_YET;
 
@@ -7,11 +7,11 @@ public final class JobAnswersTest {
         whatIsNoJob(due);
         aJobFromSubmitToFinish(due);
         goneFromEveryState(due);
-        askingChangesNothing(due);
         due.end();
     }
 
     private static void whatIsNoJob(Due due) {
+        due.says("NO_JOB");
         ProcessorSharing x = new ProcessorSharing();
         int[] wrong = {-1, 2, 23, 24, 25, Integer.MIN_VALUE, Integer.MAX_VALUE};
         x.submit(10, 0);
@@ -29,6 +29,7 @@ public final class JobAnswersTest {
 
     /** Job 8 goes through all states but gone. */
     private static void aJobFromSubmitToFinish(Due due) {
+        due.says("Of a job: 0 not arrived, 1 in the line, 2 served, 3 finished, 4 gone");
         ProcessorSharing x = new ProcessorSharing();
         for (int job = 0; job < 8; job++) {
             x.submit(420, 0);
@@ -53,6 +54,7 @@ public final class JobAnswersTest {
     }
 
     private static void goneFromEveryState(Due due) {
+        due.says("A job that was taken away has the state GONE and keeps what it had.");
         ProcessorSharing x = new ProcessorSharing();
         for (int job = 0; job < 10; job++) {
             x.submit(9000, 0);
@@ -70,29 +72,5 @@ public final class JobAnswersTest {
         due.job(x, 9, 4, 0, NOT_YET, NOT_YET);
         due.job(x, 10, 4, 0, NOT_YET, NOT_YET);
         due.is("state(8)", x.state(8), 3);
-    }
-
-    private static void askingChangesNothing(Due due) {
-        ProcessorSharing asked = new ProcessorSharing();
-        ProcessorSharing quiet = new ProcessorSharing();
-        for (int job = 0; job < 12; job++) {
-            asked.submit(100 + 90 * job, job / 3);
-            quiet.submit(100 + 90 * job, job / 3);
-        }
-        for (int tick = 0; tick < 12; tick++) {
-            int job = tick;
-            asked.state(job);
-            asked.had(job);
-            asked.admitted(job);
-            asked.finished(job);
-            asked.served();
-            asked.waiting();
-            asked.now();
-            due.is("run(1)", asked.run(1), quiet.run(1));
-        }
-        for (int job = 0; job < 12; job++) {
-            due.job(asked, job, quiet.state(job), quiet.had(job),
-                    quiet.admitted(job), quiet.finished(job));
-        }
     }
 }
