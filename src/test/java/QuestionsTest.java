@@ -2,19 +2,46 @@ import java.util.function.ToIntFunction;
 
 /** "Terms": the calls from now on to waiting change nothing. */
 public final class QuestionsTest {
+    private static final int NOT_YET = ProcessorSharing.NOT_YET;
+    private static final int ARRIVES_NOW = Scene.JOBS;
+    private static final int JOBS = Scene.JOBS + 1;
+
     public static void main(String[] args) {
         Due due = new Due();
         noQuestionChangesAnything(due);
         refusedQuestionsChangeNothing(due);
         askingBetweenTicksChangesNothing(due);
-        askingAgainAnswersTheSame(due);
         due.end();
     }
 
-    private static void unchangedBy(Due due, ToIntFunction<ProcessorSharing> question) {
+    /** A question that let jobs arrive would show in the job that arrives in the present tick. */
+    private static ProcessorSharing begin() {
         ProcessorSharing x = Scene.ofEveryState();
-        question.applyAsInt(x);
-        due.alikeFromNowOn(x, Scene.ofEveryState(), Scene.JOBS);
+        x.submit(50, 0);
+        return x;
+    }
+
+    /**
+     * The known rows come first: a twin is asked the same questions, so it alone can't show what a
+     * question changes once and no more.
+     */
+    private static void unchangedBy(Due due, ToIntFunction<ProcessorSharing> question) {
+        ProcessorSharing x = begin();
+        due.is("the same question again", question.applyAsInt(x), question.applyAsInt(x));
+        rowsAreAsAtTheBeginning(due, x);
+        due.alikeFromNowOn(x, begin(), JOBS);
+    }
+
+    private static void rowsAreAsAtTheBeginning(Due due, ProcessorSharing x) {
+        due.job(x, ARRIVES_NOW, 0, 0, NOT_YET, NOT_YET);
+        due.job(x, Scene.NOT_ARRIVED, 0, 0, NOT_YET, NOT_YET);
+        due.job(x, Scene.IN_LINE, 1, 0, NOT_YET, NOT_YET);
+        due.job(x, Scene.SERVED, 2, 210, 0, NOT_YET);
+        due.job(x, Scene.LAST_SERVED, 2, 105, 1, NOT_YET);
+        due.job(x, Scene.FINISHED, 3, 1, 0, 0);
+        due.job(x, Scene.GONE, 4, 210, 0, NOT_YET);
+        due.noJob(x, JOBS);
+        due.server(x, 2, 7, 3);
     }
 
     private static void noQuestionChangesAnything(Due due) {
@@ -22,8 +49,8 @@ public final class QuestionsTest {
         unchangedBy(due, x -> x.now());
         unchangedBy(due, x -> x.served());
         unchangedBy(due, x -> x.waiting());
-        int[] jobs = {Scene.FINISHED, Scene.GONE, Scene.SERVED, Scene.IN_LINE, Scene.NOT_ARRIVED};
-        for (int job : jobs) {
+        for (int number = 0; number < JOBS; number++) {
+            int job = number;
             unchangedBy(due, x -> x.state(job));
             unchangedBy(due, x -> x.had(job));
             unchangedBy(due, x -> x.admitted(job));
@@ -33,7 +60,7 @@ public final class QuestionsTest {
 
     private static void refusedQuestionsChangeNothing(Due due) {
         due.says("The calls below change nothing.");
-        int[] wrong = {-1, Scene.JOBS, 24};
+        int[] wrong = {-1, JOBS, 24};
         for (int job : wrong) {
             unchangedBy(due, x -> x.state(job));
             unchangedBy(due, x -> x.had(job));
@@ -61,19 +88,5 @@ public final class QuestionsTest {
             due.is("run(1)", asked.run(1), quiet.run(1));
         }
         due.alike(asked, quiet, 12);
-    }
-
-    private static void askingAgainAnswersTheSame(Due due) {
-        due.says("The calls below change nothing.");
-        ProcessorSharing x = Scene.ofEveryState();
-        for (int i = 0; i < 2; i++) {
-            due.server(x, 2, 7, 3);
-            due.job(x, Scene.FINISHED, 3, 1, 0, 0);
-            due.job(x, Scene.GONE, 4, 210, 0, ProcessorSharing.NOT_YET);
-            due.job(x, Scene.SERVED, 2, 210, 0, ProcessorSharing.NOT_YET);
-            due.job(x, Scene.IN_LINE, 1, 0, ProcessorSharing.NOT_YET, ProcessorSharing.NOT_YET);
-            due.job(x, Scene.NOT_ARRIVED, 0, 0, ProcessorSharing.NOT_YET, ProcessorSharing.NOT_YET);
-            due.noJob(x, Scene.JOBS);
-        }
     }
 }
