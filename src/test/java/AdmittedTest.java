@@ -1,6 +1,5 @@
 /** Promise 9: admitted. */
 public final class AdmittedTest {
-    private static final int NO_JOB = ProcessorSharing.NO_JOB;
     private static final int NOT_YET = ProcessorSharing.NOT_YET;
 
     public static void main(String[] args) {

@@ -6,7 +6,7 @@ import java.util.Arrays;
 import java.util.Set;
 import java.util.TreeSet;
 
-/** The public face, and rules 1, 2 and 5 of LANGUAGE.md as far as they can be seen in the class. */
+/** The public face, and rules 1, 2, 5 and 10 of LANGUAGE.md as far as they can be seen in the class. */
 public final class FaceTest {
     private static final Set<String> FACE = Set.of(
             "public static final int BAD_SIZE",
@@ -34,6 +34,7 @@ public final class FaceTest {
         faceIsTheDocuments(due);
         privateMethodsHaveNamesOfTheirOwn(due);
         fieldsAreWholeNumbersOrArraysOfThem(due);
+        fieldsAreFew(due);
         due.end();
     }
 
@@ -104,5 +105,12 @@ public final class FaceTest {
                                 && Arrays.asList("int", "long").contains(type));
             }
         }
+    }
+
+    private static void fieldsAreFew(Due due) {
+        long fields = Arrays.stream(ProcessorSharing.class.getDeclaredFields())
+                .filter(field -> !Modifier.isStatic(field.getModifiers()))
+                .count();
+        due.holds("at most forty fields beside the constants", fields <= 40);
     }
 }

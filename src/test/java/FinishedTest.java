@@ -1,6 +1,5 @@
 /** Promise 10: finished. */
 public final class FinishedTest {
-    private static final int NO_JOB = ProcessorSharing.NO_JOB;
     private static final int NOT_YET = ProcessorSharing.NOT_YET;
 
     public static void main(String[] args) {

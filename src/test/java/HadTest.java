@@ -1,7 +1,5 @@
 /** Promise 8: had. */
 public final class HadTest {
-    private static final int NO_JOB = ProcessorSharing.NO_JOB;
-
     public static void main(String[] args) {
         Due due = new Due();
         goesUpByTheShare(due);

@@ -52,7 +52,7 @@ public final class RunTest {
         }
     }
 
-    /** All 24 jobs end long before the 5000th tick, so the present tick alone shows the bound. */
+    /** The job ends long before the 5000th tick, so the present tick alone shows the bound. */
     private static void aboveTheMostCountsAsTheMost(Due due) {
         due.says("above 5000 as 5000");
         int[] ticks = {4999, 5000, 5001, 5002, 10000, Integer.MAX_VALUE};

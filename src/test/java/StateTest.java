@@ -1,7 +1,5 @@
 /** Promise 7: state. */
 public final class StateTest {
-    private static final int NO_JOB = ProcessorSharing.NO_JOB;
-
     public static void main(String[] args) {
         Due due = new Due();
         tellsEveryState(due);
